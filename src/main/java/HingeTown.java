@@ -1468,31 +1468,31 @@ public final class HingeTown {
         private final int[] changesUpTo = new int[Plan.PERSONS + 1];
 
         void weigh(Street street) {
+            Day today = street.today();
             persons = street.plan.persons;
             System.arraycopy(street.state.sides, 0, now, 0, now.length);
             Arrays.fill(joys, 0);
             Arrays.fill(blisses, 0);
             for (int m = 0; m < street.plan.meets; m++) {
-                weighMeet(street, m);
+                weighMeet(street.plan, m, today);
             }
             for (int n = 0; n < street.plan.noises; n++) {
                 boolean quiet = street.isQuiet(street.plan.makers[n]);
                 for (int p = 0; p < persons && !quiet; p++) {
-                    weighNoise(street, n, p);
+                    weighNoise(street, n, p, today);
                 }
             }
         }
 
-        private void weighMeet(Street street, int meet) {
-            Day today = street.today();
+        private void weighMeet(Plan plan, int meet, Day today) {
             for (int i = 0; i < Street.SIDES * Street.SIDES; i++) {
                 int side = i / Street.SIDES;
                 int otherSide = i % Street.SIDES;
                 int both = today.hours[side] & today.hours[otherSide];
-                if (Integer.bitCount(both) >= street.plan.hours[meet]) {
-                    int one = placeOf(street.plan.ones[meet], side);
-                    int other = placeOf(street.plan.others[meet], otherSide);
-                    int worth = street.plan.worths[meet];
+                if (Integer.bitCount(both) >= plan.hours[meet]) {
+                    int one = placeOf(plan.ones[meet], side);
+                    int other = placeOf(plan.others[meet], otherSide);
+                    int worth = plan.worths[meet];
                     joys[one * PLACES + other] += worth;
                     joys[other * PLACES + one] += worth;
                     blisses[one * PLACES + other] += worth;
@@ -1501,12 +1501,11 @@ public final class HingeTown {
             }
         }
 
-        private void weighNoise(Street street, int noise, int person) {
+        private void weighNoise(Street street, int noise, int person, Day today) {
             int maker = street.plan.makers[noise];
             if (maker == person) {
                 return;
             }
-            Day today = street.today();
             int hour = street.plan.times[noise];
             int hurt = street.hurtOf(noise, person, today);
             for (int i = 0; i < Street.SIDES * Street.SIDES; i++) {
@@ -1716,6 +1715,7 @@ public final class HingeTown {
 
         /** Each light that counts leaves fewer of the ways, from all that there are. */
         void lookAt(Street street, int k) {
+            Day today = street.today();
             ways = Math.min(1 << street.plan.persons, MOST_WAYS);
             for (int i = 0; i < ways; i++) {
                 nights[i] = i;
@@ -1723,14 +1723,14 @@ public final class HingeTown {
             for (int light = 0; light < count; light++) {
                 boolean untold = untoldAt[light] != NONE && untoldAt[light] <= k;
                 if (toldAt[light] <= k && !untold) {
-                    dropAgainst(street, light);
+                    dropAgainst(light, street.plan, today);
                 }
             }
         }
 
-        private void dropAgainst(Street street, int light) {
-            int home = street.plan.whoLivesAt(houses[light]);
-            boolean day = street.today().wakes(Street.DAY, hours[light]);
+        private void dropAgainst(int light, Plan plan, Day today) {
+            int home = plan.whoLivesAt(houses[light]);
+            boolean day = today.wakes(Street.DAY, hours[light]);
             int left = 0;
             for (int i = 0; i < ways; i++) {
                 if (isLit(nights[i], home, day) == were[light]) {

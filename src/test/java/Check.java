@@ -27,8 +27,13 @@ final class Check {
     }
 
     static int tell(HingeTown x, String text) {
+        return tell(x, text, "");
+    }
+
+    /** What stands behind the text on the tape is cut off again, so that it must not count. */
+    static int tell(HingeTown x, String text, String behind) {
         x.end(0);
-        int[] f = feeds(text);
+        int[] f = feeds(text.length() + behind.length() <= 1600 ? text + behind : text);
         for (int i = 0; i < f.length; i += 5) x.feed(f[i], f[i + 1], f[i + 2], f[i + 3], f[i + 4]);
         x.end(text.length());
         return x.town();

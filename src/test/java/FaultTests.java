@@ -8,11 +8,13 @@ public final class FaultTests {
     private static void bad(int fault, String marked) {
         int place = marked.indexOf('^');
         String text = marked.replace("^", "");
-        HingeTown x = new HingeTown();
-        check.due("town() of " + text, Check.tell(x, text), -1);
-        check.due("fault(0) of " + text, x.fault(0), fault);
-        check.due("fault(1) of " + text, x.fault(1), place);
-        check.due("no persons of " + text, x.about(0), 0);
+        for (String behind : new String[] {"", "x", "9", ";"}) {
+            HingeTown x = new HingeTown();
+            check.due("town() of " + text, Check.tell(x, text, behind), -1);
+            check.due("fault(0) of " + text, x.fault(0), fault);
+            check.due("fault(1) of " + text, x.fault(1), place);
+            check.due("no persons of " + text, x.about(0), 0);
+        }
     }
 
     private static void good(int persons, String text) {
@@ -52,6 +54,10 @@ public final class FaultTests {
         bad(2, "^personp at 1;");
         bad(2, "dawn 1 ^2;");
         bad(2, "person p at 1 ^< ;");
+        bad(2, "person p at 1^");
+        bad(2, "dawn 1234^");
+        bad(2, "person abcdefgh^");
+        bad(2, "^perso");
     }
 
     private static void lines() {

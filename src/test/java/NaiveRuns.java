@@ -55,23 +55,32 @@ public final class NaiveRuns {
 
     private String town() {
         StringBuilder s = new StringBuilder();
-        int n = below(8);
+        // A full town has as many of each sort as there can be.
+        boolean full = below(4) == 0;
+        int n = full ? 7 : below(8);
+        int tries = full ? 200 : 10;
+        int meets = 0;
+        int noises = 0;
         for (int p = 0; p < n; p++) {
             s.append("person ").append(NAMES[p]).append(" at ").append(below(3) == 0 ? below(10) : below(3))
                 .append(new String[] {"", " night", " hinge"}[below(3)]).append(";");
         }
-        for (int i = 0; i < 10 && n > 1; i++) {
+        for (int i = 0; i < tries && meets < 10 && n > 1; i++) {
             int a = below(n);
             int b = below(n);
             String x1 = "meet " + NAMES[a] + " " + NAMES[b];
             String x2 = "meet " + NAMES[b] + " " + NAMES[a];
             if (a != b && s.indexOf(x1 + " hours") < 0 && s.indexOf(x2 + " hours") < 0 && below(4) > 0) {
                 s.append(x1).append(" hours ").append(1 + below(below(3) == 0 ? 24 : 8)).append(" worth ").append(1 + below(below(2) == 0 ? 99 : 12)).append(";\n");
+                meets++;
             }
         }
-        for (int i = 0; i < 8 && n > 0; i++) {
+        for (int i = 0; i < tries && noises < 8 && n > 0; i++) {
             String noise = "noise " + NAMES[below(n)] + " at " + below(24) + " loud ";
-            if (s.indexOf(noise) < 0 && below(4) > 0) s.append(noise).append(1 + below(20)).append("; ");
+            if (s.indexOf(noise) < 0 && below(4) > 0) {
+                s.append(noise).append(1 + below(20)).append("; ");
+                noises++;
+            }
         }
         for (int p = 0; p < n; p++) if (below(3) == 0) s.append("wakeful ").append(NAMES[p]).append(" ").append(below(101)).append(";");
         if (below(2) == 0) s.append("dawn ").append(expression(3, new String[] {"date", "date", "hour", "far"})).append(";");

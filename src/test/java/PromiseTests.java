@@ -110,6 +110,9 @@ public final class PromiseTests {
         due("4 nothing told", x.town(), 0);
         due("4 empty", x.about(0), 0);
         due("4 dusk not told any more", x.light(100, 1), 18);
+        Check.tell(x, TWO);
+        due("4 date not told", x.about(4), 0);
+        due("4 wakeful not told any more", x.person(0, 5), 0);
     }
 
     private static void fault() {
@@ -165,7 +168,7 @@ public final class PromiseTests {
     }
 
     private static void light() {
-        HingeTown x = told("dawn date-5;dusk date+hour+loud+far;");
+        HingeTown x = told("dawn date-5-hour-loud-far;dusk date+hour+loud+far;");
         due("8 dawn at least", x.light(0, 0), 0);
         due("8 dawn", x.light(9, 0), 4);
         due("8 dawn at most", x.light(364, 0), 11);
@@ -177,7 +180,7 @@ public final class PromiseTests {
         due("8 other what", x.light(0, 2), -1);
         due("8 what below", x.light(0, -1), -1);
         String[] values = {"7/2", "3", "0-7/2", "0", "7%4", "3", "5/0+3", "3", "5%0+4", "4", "1<2", "1", "2<1", "0",
-            "2>1", "1", "3=3", "1", "3=4", "0", "2 and 3", "1", "2 and 0", "0", "0 or 5", "1", "0 or 0", "0",
+            "2>1", "1", "2<2", "0", "2>2", "0", "3=3", "1", "3=4", "0", "2 and 3", "1", "2 and 0", "0", "0 or 5", "1", "0 or 0", "0",
             "not 7", "0", "not not 7", "1", "not not not 7", "0", "not 1+2", "0", "not 0<5", "0", "2+3*2", "8",
             "9-3-2", "4", "(1+2)*3", "9", "8/2/2", "2", "1 or 0 and 0", "1",
             "(5)", "5", "2<1+3", "1", "(0-7)%4+9", "6", "(0-9)/4+9", "7"};
@@ -315,6 +318,8 @@ public final class PromiseTests {
         for (int i = 0; i < 5; i++) x.undo();
         due("15 side again", x.redo(), true);
         due("15 side", x.person(0, 1), 1);
+        due("15 one to undo", x.about(6), 1);
+        due("15 four to redo", x.about(7), 4);
         due("15 quiet not yet", x.about(5), 0);
         x.redo();
         due("15 quiet", x.about(5), 4);
@@ -367,6 +372,8 @@ public final class PromiseTests {
             + "meet b c hours 24 worth 2;dusk 18-(date=7);date 7;");
         due("18 today", x.never(0), 7);
         due("18 never at all", x.never(1), 7);
+        due("18 tomorrow", told("person a at 0;person b at 0;meet a b hours 12 worth 1;dusk 18-(date=8);date 7;").never(0), 8);
+        due("18 yesterday", told("person a at 0;person b at 0;meet a b hours 12 worth 1;dusk 18-(date=6);date 7;").never(0), 6);
         hours(x, 24);
         due("18 round the year", x.never(0), 7);
         due("18 today again", x.never(1), 8);
@@ -446,6 +453,36 @@ public final class PromiseTests {
         lying("22 as they are", w, 0, 0);
     }
 
+    /** As many of each sort as there can be: persons 0 .. 6 in a ring, and three across. */
+    private static void full() {
+        String text = "";
+        for (int p = 0; p < 7; p++) text += "person " + (char) ('a' + p) + " at " + p + (p % 2 == 0 ? ";" : " night;");
+        for (int p = 0; p < 7; p++) text += "meet " + (char) ('a' + p) + " " + (char) ('a' + (p + 1) % 7) + " hours 12 worth 10;";
+        for (int p = 0; p < 3; p++) text += "meet " + (char) ('a' + p) + " " + (char) ('d' + p) + " hours 12 worth 1;";
+        for (int h = 0; h < 8; h++) text += "noise g at " + h + " loud 9;";
+        HingeTown x = told(text);
+        due("full meets", x.about(1), 10);
+        due("full noises", x.about(2), 8);
+        due("full can", x.can(0), 1 << 6);
+        // g is awake at 6 and 7; b, d, f sleep 5, 3 and 1 houses off.
+        due("full harmed", x.harmed(1, 0) + x.harmed(3, 0) + x.harmed(5, 0), 8 + 12 + 16);
+        due("full harm by g", x.loudest(0, 1), 36);
+        due("full bliss", x.bliss(0), 10 - 36);
+        due("full cut", x.cut(), 73);
+        lying("full cut", x, 0, 0, 0, 0, 0, 0, 0);
+        due("full rest", x.rest(), 1);
+        due("full lonely", x.lonely(0), 1 << 1 | 1 << 2 | 1 << 3 | 1 << 4 | 1 << 5);
+        due("full fits", x.fits(0), 128);
+        due("full harm of hour 0", x.hour(), 0);
+        hours(x, 5);
+        due("full harm of hour 6", x.hour(), 18);
+        due("full together", x.meet(6, 4), 1);
+        due("full not together", x.meet(9, 4), 0);
+        hours(x, 17);
+        due("full met", x.meet(6, 5), 1);
+        due("full wake", x.wake(0, 6, 1), 1 << 0 | 1 << 6);
+    }
+
     private static void joy() {
         HingeTown x = told(STREET);
         due("23 ann", x.joy(0, 98), -2);
@@ -460,6 +497,7 @@ public final class PromiseTests {
     private static void lonely() {
         HingeTown x = told(STREET + "person dan at 4;");
         due("24 without any", x.lonely(98), 8);
+        due("24 the first meet", told("person a at 0;person b at 0;meet a b hours 1 worth 1;").lonely(0), 0);
         x.go(2, 0);
         due("24 bob, too", x.lonely(98), 10);
         due("24 beyond", x.lonely(365), -1);
@@ -564,6 +602,9 @@ public final class PromiseTests {
         due("29 and so on at the same hour", y.post(0, 2), 1);
         HingeTown z = told(TWO + "meet a b hours 1 worth 1;");
         due("29 not within 240", z.post(0, 1), -1);
+        HingeTown chain = told("person a at 0;person b at 0;person c at 0;person d at 0;"
+            + "meet c d hours 1 worth 1;meet b c hours 1 worth 1;meet a b hours 1 worth 1;dawn 0;");
+        due("29 from hand to hand", chain.post(0, 3), 1);
         due("29 no meet", told("person a at 0;person b at 0;").post(0, 1), -1);
         HingeTown d = told("person a at 0;person b at 0;meet a b hours 1 worth 1;dawn (date=0)*3;date 364;");
         hours(d, 23);
@@ -578,6 +619,7 @@ public final class PromiseTests {
         due("30 eighteen", x.spread(0, 18), 5);
         due("30 nineteen", x.spread(0, 19), 7);
         due("30 the most", x.spread(0, 240), 7);
+        due("30 at this hour", told("person a at 0;person b at 0;meet a b hours 1 worth 1;dawn 0;").spread(1, 1), 3);
         due("30 too many", x.spread(0, 241), -1);
         due("30 below", x.spread(0, -1), -1);
         due("30 person beyond", x.spread(3, 1), -1);
@@ -598,10 +640,16 @@ public final class PromiseTests {
         hours(x, 4);
         due("31 nobody has to be", x.wake(1, 2, 0), 0);
         due("31 nobody as bits", x.wake(1, 2, 1), 0);
+        hours(x, 1);
+        due("31 at the last hour of the night", x.wake(0, 2, 1), 1);
         due("31 never", told(TWO).wake(0, 1, 0), -1);
+        due("31 everybody", told("person a at 0;person b at 0;meet a b hours 1 worth 1;").wake(0, 1, 1), 3);
         HingeTown y = told("person a at 0 night;person b at 0;person c at 0;person d at 0 night;person e at 0;"
             + "meet a c hours 1 worth 1;meet c d hours 1 worth 1;meet a b hours 1 worth 1;meet b d hours 1 worth 1;meet d e hours 1 worth 1;");
         due("31 of like ones the least", y.wake(0, 3, 1), 2);
+        HingeTown z = told("person a at 0;person b at 0;person c at 0;person d at 0 night;person e at 0 night;meet d a hours 1 worth 1;"
+            + "meet a b hours 1 worth 1;meet b e hours 1 worth 1;meet d c hours 1 worth 1;meet c e hours 1 worth 1;");
+        due("31 fewest before least", z.wake(3, 4, 1), 4);
         due("31 the last one, too", y.wake(0, 4, 1), 2 | 16);
     }
 
@@ -671,6 +719,9 @@ public final class PromiseTests {
         due("35 untold", x.untell(0), true);
         due("35 at the same time", x.fits(0), 8);
         due("35 already", x.untell(0), false);
+        x.lit(0, 12, true);
+        Check.tell(x, STREET);
+        due("35 gone with the town", x.untell(1), false);
     }
 
     private static void later() {
@@ -739,6 +790,9 @@ public final class PromiseTests {
         // a, b are not both by day: by day one of the other three is dark, by night none is.
         due("39 by day", x.ask(1, 0, 0), 6);
         due("39 by day leaves", x.ask(1, 1, 0), 8);
+        HingeTown y = told("person a at 1;person b at 1;dawn 1;");
+        y.lit(1, 0, true);
+        due("39 the first hour by day", y.ask(1, 0, 0), 1);
         due("39 known before", x.ask(1, 0, -1), 0);
         due("39 house beyond", x.ask(10, 0, 0), -1);
         due("39 house below", x.ask(-1, 0, 0), -1);
@@ -758,6 +812,8 @@ public final class PromiseTests {
         hours(x, 24);
         due("40 written over", x.image(2), 99);
         due("40 another box", x.back(0), -1);
+        due("40 first box", x.image(0), 99);
+        due("40 first box back", x.back(0), 99);
     }
 
     private static void back() {
@@ -862,6 +918,7 @@ public final class PromiseTests {
         image();
         back();
         about();
+        full();
     }
 
     public static void main(String[] args) {
