@@ -77,10 +77,13 @@ final class DayEdges {
             due(told("person a at 3;person b at 3 night;person c at 5 night;noise a at 9 loud 8;harm loud/far;").harmed(1, 0), 0);
             due(told("person a at 3;person b at 3 night;person c at 5 night;noise a at 9 loud 8;harm loud/far;").harmed(2, 0), 4);
         });
-        sentence("relations, and, or, not are 1 or 0, of what is not 0).", () -> values("5<6", "1", "6<6", "0", "7<6", "0", "5>6", "0", "6>6", "0",
+        sentence("relations, and, or, not are 1 or 0, of what is not 0).", () -> {
+            values("5<6", "1", "6<6", "0", "7<6", "0", "5>6", "0", "6>6", "0",
             "7>6", "1", "5=6", "0", "6=6", "1", "7=6", "0", LEAST + "<1", "1", LEAST + ">1", "0", "1 and 2", "1", "(0-1) and (0-1)", "1", "7 and 0", "0",
             "0 and 7", "0", "0 and 0", "0", "1 or 2", "1", "0 or (0-2)", "1", "(0-2) or 0", "1", "0 or 0", "0", "not 0", "1", "not 5", "0", "not (0-5)", "0",
-            "not " + LEAST, "0", "not not 9", "1", LEAST + " and " + LEAST, "1", "(3<4)+(4>3)+(4=4)+(2 and 2)+(2 or 2)+(not 0)", "6"));
+            "not " + LEAST, "0", "not not 9", "1", LEAST + " and " + LEAST, "1", "(3<4)+(4>3)+(4=4)+(2 and 2)+(2 or 2)+(not 0)", "6");
+            for (int nots = 1; nots <= 7; nots++) values("not ".repeat(nots) + "5", String.valueOf(1 - nots % 2), "not ".repeat(nots) + "0", String.valueOf(nots % 2));
+        });
     }
 
     private static int clockwise(int a, int b) {
@@ -160,6 +163,9 @@ final class DayEdges {
             HingeTown x = told("person a at 3;person b at 3 night;person c at 4;noise a at 12 loud 7;noise c at 12 loud 5;noise b at 12 loud 9;");
             due(x.harmed(0, 0), 0);
             due(x.harmed(1, 0), 7 + 4);
+            hours(x, 12);
+            due(x.person(0, 6), 0);
+            due(x.person(1, 6), 7 + 4);
             x.go(0, 1);
             due(x.harmed(0, 0), 4);
             x.go(2, 1);
@@ -664,10 +670,10 @@ final class DayEdges {
         });
         Edges.part("## Promise 13:");
         sentence("An HOUR: all HARM that was done in it.", () -> {
-            HingeTown x = told("person a at 0;person b at 9 night;person c at 4 hinge;noise a at 12 loud 20;noise b at 23 loud 9;noise b at 0 loud 9;");
-            for (int hour = 0; hour < 48; hour++) due(x.hour(), hour % 24 == 12 ? 11 + 16 : hour % 24 == 23 || hour % 24 == 0 ? 4 : 0);
+            HingeTown x = told("person a at 0;person b at 9 night;person c at 4 hinge;noise a at 12 loud 20;noise b at 23 loud 20;noise b at 0 loud 10;");
+            for (int hour = 0; hour < 48; hour++) due(x.hour(), hour % 24 == 12 ? 11 + 16 : hour % 24 == 23 ? 11 + 15 : hour % 24 == 0 ? 1 + 5 : 0);
             x.hush(0);
-            for (int hour = 0; hour < 23; hour++) due(x.hour(), hour == 0 ? 4 : 0);
+            for (int hour = 0; hour < 23; hour++) due(x.hour(), hour == 0 ? 1 + 5 : 0);
             due(new HingeTown().hour(), 0);
         });
         sentence("(An ACT.)", () -> {

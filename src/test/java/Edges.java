@@ -6,6 +6,7 @@ import java.util.List;
 import java.util.Set;
 import java.util.TreeSet;
 import java.util.function.Consumer;
+import java.util.function.Supplier;
 import java.util.function.ToLongFunction;
 
 /**
@@ -22,7 +23,7 @@ final class Edges {
     private static final Set<String> HELPERS = Set.of("due", "bad", "good", "lying");
     private static final Path DOCUMENT = Path.of("../shared/DOC.md");
     /** Words of those sentences that are to be tested, if not all are. */
-    private static final String ONLY = System.getProperty("only", "");
+    private static String only = System.getProperty("only", "");
 
     private static final String DOC = readDocument();
     private static final boolean[] QUOTED = new boolean[DOC.length()];
@@ -50,6 +51,10 @@ final class Edges {
         return text.replace("&lt;", "<").replace("&gt;", ">").replace("```text", " ").replace("```", " ").replaceAll("\\s+", " ");
     }
 
+    static void only(String words) {
+        only = words;
+    }
+
     /** Sentences from here on stand behind these words of the document, in its order. */
     static void part(String words) {
         heading = words;
@@ -60,7 +65,7 @@ final class Edges {
     static void sentence(String words, Runnable test) {
         now = heading + " " + words;
         quote(words);
-        if (!now.contains(ONLY)) return;
+        if (!now.contains(only)) return;
         TESTED.add(now);
         seenHere = 0;
         try {
@@ -109,7 +114,7 @@ final class Edges {
 
     /** All words between the two headings are quoted by a test, but for headings and faces of methods. */
     static void allQuoted(String first, String last) {
-        if (DOC.isEmpty() || !ONLY.isEmpty()) return;
+        if (DOC.isEmpty() || !only.isEmpty()) return;
         int end = DOC.indexOf(last);
         int at = DOC.indexOf(first);
         while (at >= 0 && at < end) {
@@ -124,6 +129,7 @@ final class Edges {
     }
 
     static void end(String name) {
+        if (DOC.isEmpty()) System.out.println(name + ": the document is not at " + DOCUMENT + ", so no quotation was looked at");
         System.out.println(name + ": " + TESTED.size() + " sentences, " + (seen - wrong) + " of " + seen + " as due");
         if (wrong != 0 || seen == 0) System.exit(1);
     }
@@ -146,6 +152,17 @@ final class Edges {
         seenHere++;
         if (!fine) {
             fail("of " + marked + " came " + town + ", fault " + x.fault(0) + " at " + x.fault(1) + ", due is " + fault + " (line " + line() + ")");
+        }
+    }
+
+    /** What stands at the place of the mark ^ may stand there, whatever else is wrong with it or behind it. */
+    static void mayStand(String marked) {
+        HingeTown x = new HingeTown();
+        Check.tell(x, marked.replace("^", ""));
+        seen++;
+        seenHere++;
+        if (x.fault(1) >= 0 && x.fault(1) <= marked.indexOf('^') && x.fault(0) <= 2) {
+            fail("of " + marked + " came fault " + x.fault(0) + " at " + x.fault(1) + " (line " + line() + ")");
         }
     }
 
@@ -183,9 +200,9 @@ final class Edges {
         x.hush(2);
         x.image(2);
         hours(x, 2);
-        x.undo();
-        x.undo();
         x.cut();
+        x.undo();
+        x.undo();
         int[] f = Check.feeds("person zed at 4 night");
         for (int i = 0; i < f.length; i += 5) x.feed(f[i], f[i + 1], f[i + 2], f[i + 3], f[i + 4]);
         x.end(21);
@@ -261,6 +278,52 @@ final class Edges {
             default: takeBackLights(x, all); break;
         }
         return all;
+    }
+
+    private static void readPlan(HingeTown x, List<Long> all) {
+        for (int i = 0; i < 13; i++) all.add((long) x.about(i));
+        for (int p = 0; p < 7; p++) for (int w = 0; w < 7; w++) all.add((long) x.person(p, w));
+        for (int m = 0; m < 10; m++) for (int w = 0; w < 7; w++) all.add((long) x.meet(m, w));
+        for (int date : new int[] {0, 98, 364}) for (int w = 0; w < 2; w++) all.add((long) x.light(date, w));
+    }
+
+    private static void readSounds(HingeTown x, List<Long> all) {
+        for (int p = 0; p < 7; p++) for (int h = 0; h < 24; h++) all.add((long) x.noise(p, h));
+        for (int h = 0; h < 24; h++) all.add((long) x.hour());
+        for (int p = 0; p < 7; p++) all.add((long) x.person(p, 4));
+        for (int m = 0; m < 10; m++) all.add((long) x.meet(m, 5));
+    }
+
+    private static void askAll(HingeTown x, List<Long> all) {
+        for (int date : new int[] {0, 364}) {
+            for (int answer : new int[] {x.can(date), x.bliss(date), x.lonely(date), x.hinges(date), x.loudest(date, 0), x.loudest(date, 1)}) all.add((long) answer);
+            for (int p = 0; p < 7; p++) all.add((long) x.harmed(p, date) + 10000L * x.joy(p, date));
+            for (int m = 0; m < 10; m++) all.add((long) x.odds(m, date, 0) + 10001L * x.odds(m, date, 1));
+        }
+        for (int m = 0; m < 10; m++) all.add((long) x.never(m) + 366L * x.dates(m));
+        for (int p = 0; p < 7; p++) {
+            int q = (p + 3) % 7;
+            for (int answer : new int[] {x.post(p, q), x.spread(p, 5), x.spread(q, 240), x.wake(p, q, 1), x.common(p, q, 0), x.sure(p, 0)}) all.add((long) answer);
+        }
+        all.add((long) x.cut());
+        for (int i = 0; i < 8; i++) all.add((long) x.lies(i));
+        all.add((long) x.rest());
+        for (int i = 0; i < 8; i++) all.add((long) x.lies(i));
+        for (int w = 0; w < 2; w++) all.add((long) x.shop(w) + 100L * x.ask(0, w, 0));
+        all.add((long) x.fits(0));
+    }
+
+    /** Both answer the same to all that can be asked. */
+    static void alike(Supplier<HingeTown> one, Supplier<HingeTown> other) {
+        List<Long> got = new ArrayList<>();
+        List<Long> want = new ArrayList<>();
+        readPlan(one.get(), got);
+        readPlan(other.get(), want);
+        readSounds(one.get(), got);
+        readSounds(other.get(), want);
+        askAll(one.get(), got);
+        askAll(other.get(), want);
+        due(got, want);
     }
 
     private static void sameLooks(int looks, Consumer<HingeTown> call, Consumer<HingeTown> other) {

@@ -217,6 +217,11 @@ final class LightEdges {
             due(y.untell(0), false);
             due(y.fits(0), 2);
             due(y.fits(4), 2);
+            y.lit(1, 12, true);
+            Check.tell(y, ONE);
+            due(y.untell(1), false);
+            y.lit(1, 12, true);
+            due(y.untell(1), false);
         });
         Edges.part("## Promise 36:");
         sentence("So much later (0 .. 1000): the TIME;", () -> {
@@ -436,8 +441,9 @@ final class LightEdges {
         Edges.part("## What it is");
         sentence("An object is used for at most 512 calls after it has been made;", () -> {
             HingeTown x = new HingeTown();
-            for (int i = 0; i < 511; i++) x.hour();
-            due(x.about(3) + 24 * x.about(4), 511);
+            for (int i = 0; i < 510; i++) x.hour();
+            due(x.about(4), 510 / 24);
+            due(x.about(3), 510 % 24);
         });
         sentence("what later calls answer is free.", () -> {
             HingeTown x = Edges.busy();

@@ -58,15 +58,20 @@ final class LookEdges {
         sentence("(By what is now; nothing is done.)", () -> {
             Edges.changesNothing(x -> {
                 for (int p = -1; p < 4; p++) {
-                    for (int q = -1; q < 4; q++) {
-                        x.common(p, q, 98);
+                    x.common(p, 1, 98);
+                    x.common(0, p, 364);
+                    x.harmed(p, 100);
+                    x.joy(p, 99);
+                    x.spread(p, 30);
+                }
+            });
+            Edges.changesNothing(x -> {
+                for (int p = -1; p < 4; p++) {
+                    for (int q = 0; q < 3; q++) {
                         x.post(p, q);
                         x.wake(p, q, 0);
                         x.wake(p, q, 1);
                     }
-                    x.harmed(p, 100);
-                    x.joy(p, 99);
-                    x.spread(p, 30);
                 }
             });
             Edges.changesNothing(x -> {
@@ -84,9 +89,12 @@ final class LookEdges {
                     x.dates(m);
                 }
                 x.shop(0);
+                x.lies(0);
+            });
+            // What they lay there is all that these do: the cut laid there by busy() is the same.
+            Edges.changesNothing(x -> {
                 x.rest();
                 x.cut();
-                x.lies(0);
             });
             HingeTown x = told(DAY_NIGHT + "meet a b hours 12 worth 5;noise a at 12 loud 3;");
             due(x.can(7), 0);
@@ -98,6 +106,23 @@ final class LookEdges {
             due(x.never(0), NONE);
             due(x.dates(0), 365);
             due(x.bliss(7), 5);
+            for (int again = 0; again < 3; again++) due(x.cut(), 5);
+            x.go(0, 1);
+            x.go(1, 1);
+            due(x.cut(), 5);
+            lying(x, 1, 1);
+            due(x.rest(), 0);
+            lying(x, 1, 1);
+            HingeTown y = told("person a at 1 hinge;person b at 0;person c at 2 night;noise b at 12 loud 9;noise c at 2 loud 9;harm (far=1)*9;");
+            for (int again = 0; again < 3; again++) due(y.rest(), 1);
+            y.hush(1);
+            due(y.rest(), 1);
+            lying(y, 1, 0, 1);
+            y.hush(2);
+            due(y.rest(), 0);
+            lying(y, 2, 0, 1);
+            due(y.cut(), 0);
+            lying(y, 2, 0, 1);
         });
     }
 
@@ -160,6 +185,9 @@ final class LookEdges {
             HingeTown z = told(DAY_DAY + "meet a b hours 13 worth 7;dusk 17;");
             due(z.cut(), 7);
             lying(z, 1, 1);
+            HingeTown w = told("person a at 0;person b at 0 night;noise b at 0 loud 9;noise b at 12 loud 9;");
+            due(w.cut(), 0);
+            lying(w, 0, 0);
         });
         sentence("of like ones those by which fewest change;", () -> {
             HingeTown x = told("person a at 0 night;person b at 0 night;meet a b hours 12 worth 5;");
@@ -168,9 +196,10 @@ final class LookEdges {
             HingeTown y = told("person a at 0;person b at 0 night;person c at 0 night;meet a b hours 12 worth 5;meet b c hours 12 worth 5;");
             due(y.cut(), 10);
             lying(y, 1, 1, 1);
-            HingeTown z = told("person a at 0 hinge;person b at 0 hinge;");
+            HingeTown z = told("person a at 0 hinge;person b at 0 hinge;person c at 0 hinge;person d at 0 hinge;person e at 0 hinge;"
+                + "person f at 0 hinge;person g at 0 hinge;");
             due(z.cut(), 0);
-            lying(z, 2, 2);
+            lying(z, 2, 2, 2, 2, 2, 2, 2);
         });
         sentence("of like ones the first (PERSON by PERSON).", () -> {
             HingeTown x = told(DAY_NIGHT + "meet a b hours 12 worth 5;");
@@ -295,9 +324,24 @@ final class LookEdges {
             due(x.wake(1, 3, 1), 0);
             due(x.wake(1, 3, 0), 0);
             due(x.wake(0, 3, 1), 1);
-            hours(x, 2);
+            hours(x, 1);
+            due(x.wake(0, 1, 1), 1);
+            due(x.wake(1, 2, 1), 0);
+            x.hour();
+            due(x.wake(0, 1, 1), 0);
+            due(x.wake(1, 2, 1), 4);
             due(x.wake(0, 4, 1), 4);
             due(x.wake(0, 4, 0), 1);
+            hours(x, 11);
+            due(x.wake(0, 1, 1), 0);
+            x.hour();
+            due(x.wake(0, 1, 1), 1);
+            due(told(DAY_DAY + "meet a b hours 1 worth 1;").wake(0, 1, 1), 3);
+            HingeTown z = told(DAY_DAY + "meet a b hours 1 worth 1;dawn 0+(date=364)*11;dusk 12;date 364;");
+            hours(z, 23);
+            due(z.wake(0, 1, 1), 3);
+            z.hour();
+            due(z.wake(0, 1, 1), 0);
             HingeTown y = told("person a at 0;person b at 0;person c at 0;person d at 0 night;person e at 0 night;meet d a hours 1 worth 1;"
                 + "meet a b hours 1 worth 1;meet b e hours 1 worth 1;meet d c hours 1 worth 1;meet c e hours 1 worth 1;");
             due(y.wake(3, 4, 1), 4);
@@ -412,6 +456,9 @@ final class LookEdges {
         sentence("BLISS;", () -> {
             HingeTown x = told(Edges.BUSY);
             due(x.bliss(98), -7);
+            HingeTown y = told(DAY_DAY + "meet a b hours 12 worth 5;dusk 18-(date=364);");
+            due(y.bliss(0), 5);
+            due(y.bliss(364), 0);
             due(new HingeTown().bliss(0), 0);
             due(new HingeTown().bliss(364), 0);
         });
@@ -444,6 +491,9 @@ final class LookEdges {
             HingeTown x = told(Edges.BUSY);
             int[] joys = {-2, 1, -1};
             for (int p = 0; p < 3; p++) due(x.joy(p, 98), joys[p]);
+            HingeTown y = told(DAY_DAY + "meet a b hours 12 worth 5;dusk 18-(date=364);");
+            due(y.joy(1, 0), 5);
+            due(y.joy(1, 364), 0);
         });
         sentence("-1000000 if one can't be.", () -> {
             HingeTown x = Edges.busy();
@@ -502,6 +552,10 @@ final class LookEdges {
             HingeTown y = told(DAY_NIGHT + "noise a at 18 loud 9;noise b at 3 loud 5;dusk 18+(date=364);");
             due(y.loudest(0, 0), 1);
             due(y.loudest(364, 0), 0);
+            HingeTown z = told(DAY_DAY);
+            z.hush(0);
+            due(z.loudest(0, 0), 1);
+            due(z.loudest(0, 1), 0);
         });
         sentence("of like ones the first;", () -> {
             due(told("person a at 0;person b at 0;person c at 0 night;noise b at 12 loud 5;noise a at 13 loud 5;").loudest(0, 0), 0);
@@ -599,6 +653,14 @@ final class LookEdges {
             HingeTown y = told(DAY_NIGHT + "meet a b hours 1 worth 1;");
             due(y.spread(1, 0), 2);
             due(y.spread(1, 240), 2);
+            HingeTown w = told(DAY_DAY + "meet a b hours 1 worth 1;");
+            hours(w, 17);
+            due(w.spread(0, 0), 1);
+            due(w.spread(0, 1), 3);
+            w.hour();
+            due(w.spread(0, 1), 1);
+            due(w.spread(0, 12), 1);
+            due(w.spread(0, 13), 3);
             HingeTown z = told(DAY_DAY + "meet a b hours 1 worth 1;dawn (date=1)*11;dusk 12+(date=1);");
             hours(z, 12);
             due(z.spread(0, 23), 1);

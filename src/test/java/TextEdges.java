@@ -11,6 +11,8 @@ final class TextEdges {
     private static final String ONE = UNIT + " not";
     private static final String BEHIND = "+ - * / % < > = and or";
 
+    private static final String[] TOKENS = ("zed p 5 ; ( ) < > = + - * / % " + String.join(" ", Edges.OWN_WORDS)).split(" ");
+
     private TextEdges() { }
 
     private static void sentence(String words, Runnable test) {
@@ -47,18 +49,18 @@ final class TextEdges {
     }
 
     /**
-     * Each slot is what stands there in this line, and all kinds that could: every token of another
-     * kind, and the end, is fault 2 at its place, whatever the line would have behind it.
+     * Each slot is what stands there in this line, and all kinds that could: these are no fault 2,
+     * every token of another kind, and the end, is, whatever the line would have behind it.
      */
     private static void slots(String ahead, String... slots) {
         String text = ahead;
         for (int i = 0; i < slots.length; i++) {
             List<String> kinds = Arrays.asList(slots[i].split(" "));
             List<String> may = kinds.subList(1, kinds.size());
-            for (String token : "zed p 5 ; ( ) < > = + - * / %".split(" ")) {
-                if (!mayStand(token, may)) bad(2, text + " ^" + token);
+            for (String token : TOKENS) {
+                if (mayStand(token, may)) Edges.mayStand(text + " ^" + token);
+                else bad(2, text + " ^" + token);
             }
-            for (String token : Edges.OWN_WORDS) if (!mayStand(token, may)) bad(2, text + " ^" + token);
             if (i > 0) bad(2, text + "^");
             text += " " + kinds.get(0);
         }
@@ -268,6 +270,11 @@ final class TextEdges {
         return text;
     }
 
+    /** As many of each sort as there can be. */
+    private static final String FULL = persons(7).replace("at 3", "at 3 night").replace("at 5", "at 9 hinge") + meets(10)
+        + noises(4) + noises(8).substring(noises(4).length()).replace(" p ", " s ")
+        + "wakeful p 50;wakeful v 100;dawn " + sum(20) + "-14;dusk 17+date%3;harm loud*9-far+date%2;date 364;";
+
     private static void limits() {
         sentence("At most 7 PERSONS", () -> {
             for (int n = 0; n <= 7; n++) due(good(persons(n)).about(0), n);
@@ -292,6 +299,18 @@ final class TextEdges {
             for (int n = 0; n <= 10; n++) due(good(persons(7) + meets(n)).about(1), n);
             bad(2, persons(7) + meets(10) + "^meet r v hours 1 worth 1;");
             due(good(persons(7) + meets(9) + "meet r v hours 1 worth 1;").about(1), 10);
+            HingeTown x = good(persons(7) + meets(10) + "dawn 0;");
+            due(x.can(0), 1023);
+            due(x.bliss(0), 10);
+            due(x.joy(6, 0), 2);
+            due(x.cut(), 10);
+            due(x.rest(), 0);
+            due(x.post(0, 6), 1);
+            due(x.spread(3, 1), 127);
+            due(x.wake(0, 6, 1), 0);
+            due(x.lonely(0), 0);
+            Edges.hours(x, 24);
+            for (int m = 0; m < 10; m++) due(x.meet(m, 5), 1);
         });
         sentence("(of two unlike PERSONS told ahead, each two once in whichever order;", () -> {
             bad(3, PQ + "meet p ^p hours 1 worth 1;");
@@ -317,6 +336,13 @@ final class TextEdges {
         sentence("8 NOISES", () -> {
             for (int n = 0; n <= 8; n++) due(good(P + noises(n)).about(2), n);
             bad(2, P + noises(8) + "^noise p at 8 loud 1;");
+            HingeTown x = good(PQ + noises(8).replace("loud 1", "loud 2") + "dawn 0;");
+            x.go(1, 1);
+            due(x.harmed(1, 0), 8);
+            due(x.loudest(0, 1), 8);
+            due(x.bliss(0), -8);
+            due(x.cut(), 0);
+            for (int hour = 0; hour < 9; hour++) due(x.hour(), hour < 8 ? 1 : 0);
         });
         sentence("(of a PERSON told ahead, at an HOUR 0 .. 23, each PERSON once at an HOUR;", () -> {
             bad(5, "noise ^p at 1 loud 1;" + P);
@@ -344,6 +370,12 @@ final class TextEdges {
             due(x.meet(1, 2), 6);
             due(x.noise(0, 1), 3);
             due(x.noise(1, 1), 4);
+            HingeTown y = good(persons(5) + "noise t at 3 loud 1;meet s t hours 1 worth 1;noise p at 3 loud 2;wakeful p 3;noise r at 3 loud 3;");
+            due(y.about(0), 5);
+            due(y.about(1), 1);
+            due(y.about(2), 3);
+            int[] louds = {2, 0, 3, 0, 1};
+            for (int p = 0; p < 5; p++) due(y.noise(p, 3), louds[p]);
         });
         sentence("wakeful (a PERSON told ahead, each once; 0 .. 100 of 100; 0 if not told)", () -> {
             bad(5, "wakeful ^p 1;" + P);
@@ -385,7 +417,11 @@ final class TextEdges {
                 due(good(line + " (" + sum(29) + ");").about(11), 30);
                 bad(2, line + " (" + sum(29) + "+^1);");
             }
+            due(good("dawn " + sum(30) + ";dusk " + sum(30) + ";").about(11), 60);
+            bad(2, "dusk " + sum(29) + ";harm " + sum(30) + "+^1;");
             due(dawn("0" + "+0".repeat(28) + "+9"), 9);
+            due(dawn("not not 7 and ".repeat(29) + "not not 7"), 1);
+            due(dawn("not not 7 and ".repeat(29) + "not not 0"), 0);
             due(dawn("0" + " or 0".repeat(28) + " or 9"), 1);
             due(dawn("1" + " and 1".repeat(28) + " and 0"), 0);
         });
@@ -543,7 +579,13 @@ final class TextEdges {
 
     private static void newAndTape() {
         Edges.part("The constants:");
-        sentence("The constants: `NONE = -1`: There is none.", () -> due(HingeTown.NONE, -1));
+        sentence("The constants: `NONE = -1`: There is none.", () -> {
+            try {
+                due(HingeTown.class.getField("NONE").getInt(null), -1);
+            } catch (ReflectiveOperationException e) {
+                due(0, -1);
+            }
+        });
         Edges.part("## Promise 1:");
         sentence("An empty TOWN.", () -> {
             HingeTown x = new HingeTown();
@@ -649,6 +691,13 @@ final class TextEdges {
             due(x.about(4), 0);
             due(x.light(100, 1), 18);
             due(x.person(0, 5), 0);
+            String[] texts = {FULL, Edges.BUSY, "", PQ + "meet p q hours 3 worth 4;noise q at 1 loud 2;dawn date;", FULL + "$", PQ + "meet q"};
+            for (String last : texts) {
+                for (int first = 0; first < 6; first++) {
+                    String[] ahead = {texts[first], texts[(first + 1) % 6], texts[(first + 2) % 6]};
+                    if (!last.endsWith("$") && !last.endsWith("q")) Edges.alike(() -> toldBehind(ahead, last), () -> told(last));
+                }
+            }
         });
         sentence("HOUR 0,", () -> due(anew().about(3), 0));
         sentence("nobody QUIET,", () -> due(anew().about(5), 0));
@@ -715,6 +764,14 @@ final class TextEdges {
             Check.tell(x, "$");
             for (int what : new int[] {2, -1, 3, Edges.LOW, Edges.HIGH}) due(x.fault(what), NONE);
         });
+    }
+
+    /** What earlier texts told, with or without a fault, must not be seen any more. */
+    private static HingeTown toldBehind(String[] ahead, String last) {
+        HingeTown x = new HingeTown();
+        for (String text : ahead) Check.tell(x, text);
+        Check.tell(x, last);
+        return x;
     }
 
     private static HingeTown anew() {
