@@ -57,6 +57,15 @@ public final class FaceTests {
         }
     }
 
+    /** The row above is the document's own: each line of its face, without the names of parameters. */
+    private static void faceOfTheDocument() throws Exception {
+        String all = Files.readString(Path.of("../shared/DOC.md"));
+        Set<String> told = new TreeSet<>();
+        Matcher m = Pattern.compile("\n    public (int|boolean) (\\w+)\\(([^)]*)\\);").matcher(all);
+        while (m.find()) told.add(m.group(1) + " " + m.group(2) + "(" + m.group(3).replaceAll("(\\w+) \\w+", "$1").replace(" ", "") + ")");
+        check.due("face of the document " + told, told.equals(new TreeSet<>(Arrays.asList(FACE.split("\\|")))), true);
+    }
+
     private static void text() throws Exception {
         String all = Files.readString(Path.of("src/main/java/HingeTown.java"));
         String code = all.replaceAll("(?s)/\\*.*?\\*/", "").replaceAll("//[^\n]*", "").replaceAll("\"[^\"]*\"", "\"\"");
@@ -79,6 +88,7 @@ public final class FaceTests {
 
     public static void main(String[] args) throws Exception {
         face();
+        faceOfTheDocument();
         text();
         check.end("FaceTests");
     }
